@@ -42,6 +42,10 @@ public final class ActTest {
         LostKeys x = Check.town("room a;room b;lock c a b 1 1 7;lock d a b 1 1 6 open;lock e a b 0 0 7;man m 1 1;man n 1 1;key k m 7;key l n 6;");
         Check.due("tries(1, 0, 2)", x.tries(1, 0, 2), 1);
         Check.due("tries(0, 0, 2)", x.tries(0, 0, 2), 2);
+        x.walk(0, 0, 1);
+        Check.due("tries(0, 0, 0) beside it by X", x.tries(0, 0, 0), 2);
+        Check.due("tries(0, 0, 2) beside it by Y", x.tries(0, 0, 2), 2);
+        x.walk(0, 1, 1);
         Check.due("tries(1, 1, 2), not there and not fitting", x.tries(1, 1, 2), 2);
         Check.due("tries(0, 0, 1)", x.tries(0, 0, 1), 3);
         Check.due("now(2)", x.now(2), 2);

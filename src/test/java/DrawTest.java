@@ -46,6 +46,10 @@ public final class DrawTest {
         Check.due("drawn(60, 1) with none left", t.drawn(60, 1), 0);
         Check.due("undo()", t.undo(), 6);
         Check.due("now(0)", t.now(0), 360);
+        t.drawn(39, 1);
+        Check.due("drawn(2, 1) with one day left", t.drawn(2, 1), 1);
+        Check.due("undo()", t.undo(), 7);
+        Check.due("now(0)", t.now(0), 399);
         Check.due("drawn(1, 1) without men", Check.town("room a;").drawn(1, 1), -1);
         Check.due("odds(3, 1, 1)", t.odds(3, 1, 1), -1);
         Check.due("odds(-1, 1, 1)", t.odds(-1, 1, 1), -1);
@@ -129,6 +133,10 @@ public final class DrawTest {
                 Check.due("odds(" + l + ", 30, " + seed + ")", t.odds(l, 30, seed), open);
             }
         }
+        int once = t.odds(2, 1, 9);
+        t.drawn(20, 9);
+        Check.due("odds(2, 1, 9) of one seed", once, t.lock(2, 5));
+        t.undo();
         Check.due("now(0) behind odds", t.now(0), 0);
         Check.due("undo() behind odds", t.undo(), -1);
         LostKeys none = Check.town("room a;room b;lock c a b 0 0 5 open;lock d a b 0 0 5;");

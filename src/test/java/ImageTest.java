@@ -4,6 +4,7 @@ public final class ImageTest {
         places();
         whole();
         toldLast();
+        anotherTown();
         Check.finish();
     }
 
@@ -92,5 +93,86 @@ public final class ImageTest {
         Check.due("byteAt(0) stays", x.byteAt(0), 'b');
         Check.due("told(2) stays", x.told(2), 7);
         Check.due("fault() stays", x.fault(), 1);
+    }
+
+    private static final String FULL = "slow 1;field 6 5;room a;room b;room c;room d;room e;room f;"
+            + "lock la f e 5 4 1 open;lock lb e d 4 3 2 open;lock lc d c 3 2 3 open;lock ld c b 2 1 4 open;lock le b a 1 0 5 open;lock lf a f 0 4 6;"
+            + "man m 5 4;man n 4 3;man o 3 2;man p 2 1;man q 1 0;"
+            + "key ka q 7;key kb p 8;key kc o 9;key kd n 10;key ke m 11;key kf q 12;key kg p 13;key kh o 14;";
+
+    /** A TOWN that is told, or restored, behind another one is as it is by itself. */
+    private static void anotherTown() {
+        LostKeys x = Check.town(FULL);
+        liveInFull(x);
+        x.image(0);
+        Check.tape(x, TownTest.SHOP);
+        x.town();
+        dueSame(x, Check.town(TownTest.SHOP));
+        x.image(1);
+        Check.tape(x, FULL);
+        x.town();
+        dueSame(x, Check.town(FULL));
+        x.restore(1);
+        dueSame(x, Check.town(TownTest.SHOP));
+        x.restore(0);
+        LostKeys full = Check.town(FULL);
+        liveInFull(full);
+        dueSame(x, full);
+        Check.tape(x, "");
+        x.town();
+        dueSame(x, new LostKeys());
+    }
+
+    private static void liveInFull(LostKeys x) {
+        x.drop(0, 4);
+        x.drop(4, 0);
+        x.days(3);
+        x.walk(1, 4, 2);
+        x.pick(4, 0);
+        Check.tape(x, "ward>9 and not near ld or had q");
+        x.sentence();
+    }
+
+    /** All that can be seen of the two is alike. */
+    private static void dueSame(LostKeys x, LostKeys want) {
+        for (int what = 0; what < 7; what++) {
+            Check.due("count(" + what + ")", x.count(what), want.count(what));
+        }
+        for (int what = 0; what < 5; what++) {
+            Check.due("now(" + what + ")", x.now(what), want.now(what));
+        }
+        for (int what = 0; what < 8; what++) {
+            for (int i = 0; i < 6; i++) {
+                Check.due("lock(" + i + ", " + what + ")", x.lock(i, what), want.lock(i, what));
+            }
+            for (int k = 0; k < want.count(3); k++) {
+                Check.due("key(" + k + ", " + what + ")", x.key(k, what), want.key(k, what));
+            }
+            for (int m = 0; m < want.count(2) && what < 4; m++) {
+                Check.due("man(" + m + ", " + what + ")", x.man(m, what), want.man(m, what));
+            }
+        }
+        for (int cell = 0; cell < 36; cell++) {
+            Check.due("nearest() to " + cell, x.nearest(cell % 6, cell / 6), want.nearest(cell % 6, cell / 6));
+        }
+        for (int k = 0; k < want.count(3); k++) {
+            Check.due("tag(" + k + ")", x.tag(k), want.tag(k));
+            for (int i = 0; i < 40; i++) {
+                Check.due("byteAt(" + i + ") of tag " + k, x.byteAt(i), want.byteAt(i));
+            }
+        }
+        for (int k = -1; k < 8; k++) {
+            Check.due("said(" + k + ")", x.said(k), want.said(k));
+        }
+        Check.due("way(0, 2, 0)", x.way(0, 2, 0), want.way(0, 2, 0));
+        Check.due("opens(60)", x.opens(60), want.opens(60));
+        Check.due("drawn(60, 5)", x.drawn(60, 5), want.drawn(60, 5));
+        Check.due("now(2) behind draws", x.now(2), want.now(2));
+        Check.due("now(3) behind draws", x.now(3), want.now(3));
+        x.undo();
+        want.undo();
+        Check.bytes(x, new byte[] {1, 1, 4, 3});
+        Check.bytes(want, new byte[] {1, 1, 4, 3});
+        Check.due("found()", x.found(), want.found());
     }
 }

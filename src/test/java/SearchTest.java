@@ -15,6 +15,9 @@ public final class SearchTest {
     private static void fitting() {
         LostKeys x = Check.town("room a;room b;lock c a b 0 0 42;man m 0 0;key k m 21;key l m 42;slow 3;");
         Check.due("fitting(0) when had", x.fitting(0), -1);
+        LostKeys quick = Check.town("room a;room b;lock c a b 0 0 3;man m 0 0;key k m 0;slow 1;");
+        quick.drop(0, 0);
+        Check.due("fitting(0) by 'slow' 1", quick.fitting(0), 2);
         Check.due("fitting(2)", x.fitting(2), -1);
         Check.due("fitting(-1)", x.fitting(-1), -1);
         x.drop(0, 0);
