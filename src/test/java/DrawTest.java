@@ -121,9 +121,9 @@ public final class DrawTest {
     }
 
     private static void odds() {
-        LostKeys t = Check.town(TownTest.SHOP);
         for (int seed : new int[] {1, -77, Integer.MAX_VALUE - 3}) {
             for (int l = 0; l < 3; l++) {
+                LostKeys t = Check.town(TownTest.SHOP);
                 int open = 0;
                 for (int i = 0; i < 30; i++) {
                     t.drawn(20, seed + i);
@@ -133,6 +133,7 @@ public final class DrawTest {
                 Check.due("odds(" + l + ", 30, " + seed + ")", t.odds(l, 30, seed), open);
             }
         }
+        LostKeys t = Check.town(TownTest.SHOP);
         int once = t.odds(2, 1, 9);
         t.drawn(20, 9);
         Check.due("odds(2, 1, 9) of one seed", once, t.lock(2, 5));

@@ -26,6 +26,8 @@ public final class FuzzTest {
     private final Plain plain = new Plain();
     private final Map<String, Integer> seen;
     private final List<String> calls = new ArrayList<>();
+    /** How many calls on the object there were, those that put a text on the tape too. */
+    private int made;
     /** The NAMES of the TOWN, so that most BOOKS and SENTENCES are of what there is. */
     private List<String> rooms = new ArrayList<>();
     private List<String> locks = new ArrayList<>();
@@ -41,7 +43,7 @@ public final class FuzzTest {
     }
 
     public static void main(String[] args) throws ReflectiveOperationException {
-        int runs = args.length > 0 ? Integer.parseInt(args[0]) : 3000;
+        int runs = args.length > 0 ? Integer.parseInt(args[0]) : 4000;
         Map<String, Integer> seen = new TreeMap<>();
         for (int seed = 0; seed < runs; seed++) {
             FuzzTest run = new FuzzTest(seed, seen);
@@ -64,13 +66,16 @@ public final class FuzzTest {
     }
 
     private boolean isAlike() throws ReflectiveOperationException {
-        int most = 450;
-        while (calls.size() < most) {
+        // An object is good for 512 calls; one step makes at most some fifty.
+        while (made < 450) {
             if (!step()) {
                 return false;
             }
         }
-        return true;
+        if (made > 512) {
+            calls.add(made + " calls are too many");
+        }
+        return made <= 512;
     }
 
     private boolean step() throws ReflectiveOperationException {
@@ -78,7 +83,7 @@ public final class FuzzTest {
             case 0:
                 List<List<String>> old = names();
                 boolean alike = text(townText(), 940) && asked("town") && both("fault");
-                if (x.fault() != 0) {
+                if (plain.fault() != 0) {
                     rename(old);
                 }
                 return alike;
@@ -86,7 +91,7 @@ public final class FuzzTest {
             case 2:
             case 3:
                 return text(bookText(), 440) && both("book", draw(12) == 0 ? number() : draw(2)) && both("fault")
-                        && both("told", 0) && both("told", 1) && both("told", 2) && both("told", 3) && count("told " + x.told(0));
+                        && both("told", 0) && both("told", 1) && both("told", 2) && both("told", 3) && count("told " + plain.told(0));
             case 4:
             case 5:
             case 6:
@@ -137,9 +142,9 @@ public final class FuzzTest {
         int ward = draw(20) == 0 ? draw(256) : draw(64);
         int cellX = draw(20) == 0 ? 7 : draw(6);
         int cellY = draw(5);
-        if (draw(2) == 0 && x.count(3) > 0 && x.count(1) > 0) {
+        if (draw(2) == 0 && plain.count(3) > 0 && plain.count(1) > 0) {
             // Such a WARD as a KEY is likely to have then.
-            ward = draw(2) == 0 ? x.key(draw(x.count(3)), 4) : x.lock(draw(x.count(1)), 4);
+            ward = draw(2) == 0 ? plain.key(draw(plain.count(3)), 4) : plain.lock(draw(plain.count(1)), 4);
             days = draw(2) == 0 ? 255 : days;
         }
         return both("end", 0) && both("feed", cellX << 24 | cellY << 16 | ward << 8 | days, 0, 0, 0, 0)
@@ -151,14 +156,14 @@ public final class FuzzTest {
         for (int i = 0; i < args.length; i++) {
             args[i] = number();
         }
-        if (name.equals("walk") && x.count(2) > 0 && draw(5) > 0) {
-            int m = draw(x.count(2));
+        if (name.equals("walk") && plain.count(2) > 0 && draw(5) > 0) {
+            int m = draw(plain.count(2));
             int way = draw(4);
-            args = new int[] {m, x.man(m, 0) + (way == 0 ? 1 : way == 1 ? -1 : 0), x.man(m, 1) + (way == 2 ? 1 : way == 3 ? -1 : 0)};
+            args = new int[] {m, plain.man(m, 0) + (way == 0 ? 1 : way == 1 ? -1 : 0), plain.man(m, 1) + (way == 2 ? 1 : way == 3 ? -1 : 0)};
         }
-        if ((name.equals("drop") || name.equals("tries")) && x.count(3) > 0 && draw(4) > 0) {
-            int k = draw(x.count(3));
-            args[0] = x.key(k, 1);
+        if ((name.equals("drop") || name.equals("tries")) && plain.count(3) > 0 && draw(4) > 0) {
+            int k = draw(plain.count(3));
+            args[0] = plain.key(k, 1);
             args[1] = k;
         }
         if ((name.equals("days") || name.equals("drawn")) && draw(2) == 0) {
@@ -174,7 +179,7 @@ public final class FuzzTest {
         if (name.equals("image") && (args[0] == 0 || args[0] == 1)) {
             namesKept.set(args[0], names());
         }
-        if (name.equals("restore") && x.restore(args[0])) {
+        if (name.equals("restore") && plain.restore(args[0])) {
             rename(namesKept.get(args[0]));
         }
         return alike;
@@ -201,12 +206,13 @@ public final class FuzzTest {
 
     private boolean both(String name, int... args) throws ReflectiveOperationException {
         Object[] boxed = Arrays.stream(args).boxed().toArray();
+        made++;
         Object got = answer(x, name, boxed);
         Object want = answer(plain, name, boxed);
         calls.add(name + Arrays.toString(args) + " answered " + got + ", due is " + want);
         count(name);
         if (List.of("town", "book", "sentence").contains(name)) {
-            count(name + " " + x.fault());
+            count(name + " " + plain.fault());
         }
         if (got instanceof Integer && (int) got >= 0) {
             count(name + " answers");
@@ -239,6 +245,7 @@ public final class FuzzTest {
         byte[] bytes = whole.getBytes(StandardCharsets.ISO_8859_1);
         calls.add("the tape: \"" + whole + "\"");
         Check.bytes(x, bytes);
+        made += 2 + (bytes.length + 19) / 20;
         plain.end(0);
         for (int i = 0; i < bytes.length; i += 20) {
             int[] n = new int[5];

@@ -32,7 +32,7 @@ public final class SearchTest {
         y.drop(0, 0);
         Check.due("fitting(0) without locks", y.fitting(0), -1);
         LostKeys z = Check.town("room a;room b;lock c a b 0 0 3;man m 0 0;key k m 0;slow 9;");
-        late(z, 381);
+        Check.late(z, 381);
         z.drop(0, 0);
         Check.due("fitting(0) with 19 days left", z.fitting(0), 18);
         z.pick(0, 0);
@@ -45,12 +45,6 @@ public final class SearchTest {
         Check.due("fitting(0) with 17 days left", z.fitting(0), -1);
         z.days(17);
         Check.due("fitting(0) with no days left", z.fitting(0), -1);
-    }
-
-    private static void late(LostKeys x, int day) {
-        while (x.now(0) < day) {
-            x.days(Math.min(60, day - x.now(0)));
-        }
     }
 
     private static void losing() {
@@ -77,7 +71,7 @@ public final class SearchTest {
         Check.due("losing(0, 0) of one that has lain 3", x.losing(0, 0), 8);
         x.days(1);
         Check.due("losing(0, 0) of one that turned", x.losing(0, 0), 4);
-        late(x, 396);
+        Check.late(x, 396);
         Check.due("losing(1, 1) with 4 days left", x.losing(1, 1), 4);
         x.days(1);
         Check.due("losing(1, 1) with 3 days left", x.losing(1, 1), -1);
@@ -136,7 +130,7 @@ public final class SearchTest {
         Check.due("now(0)", x.now(0), 0);
         Check.due("key(0, 5)", x.key(0, 5), 0);
         x.pick(0, 0);
-        late(x, 399);
+        Check.late(x, 399);
         x.drop(0, 0);
         Check.due("opens(60) with one day left", x.opens(60), 2);
     }

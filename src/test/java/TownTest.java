@@ -1,5 +1,3 @@
-import java.util.NoSuchElementException;
-
 /** Promises 4 (town) to 9 (now), 16 (nearest) and 17 (off). */
 public final class TownTest {
     static final String SHOP = "field 4 3;room cellar;room shop;room bank;lock drain cellar shop 0 0 5;"
@@ -194,10 +192,10 @@ public final class TownTest {
         Check.due("lock(0, -1)", x.lock(0, -1), -1);
         Check.due("lock(0, 6)", x.lock(0, 6), -1);
         for (int[] wrong : new int[][] {{3, 0}, {-1, 0}, {0, 8}, {0, -1}, {Integer.MAX_VALUE, 0}}) {
-            Check.due("key() throws", throwsKey(x, wrong[0], wrong[1]), true);
+            Check.due("key() throws", Check.throwsKey(x, wrong[0], wrong[1]), true);
         }
         for (int[] wrong : new int[][] {{2, 0}, {-1, 0}, {0, 4}, {0, -1}, {Integer.MIN_VALUE, 0}}) {
-            Check.due("man() throws", throwsMan(x, wrong[0], wrong[1]), true);
+            Check.due("man() throws", Check.throwsMan(x, wrong[0], wrong[1]), true);
         }
         x.drop(0, 1);
         x.drop(1, 2);
@@ -211,24 +209,6 @@ public final class TownTest {
         Check.due("now(5)", x.now(5), -1);
         LostKeys same = Check.town("room a;room b;lock c a b 0 0 7;lock d a b 1 0 7;lock e b a 2 0 6;lock f b a 2 0 7;man m 0 0;key k m 7;");
         Check.due("key(0, 7) of three that it fits", same.key(0, 7), 1 + 2 + 8);
-    }
-
-    private static boolean throwsKey(LostKeys x, int k, int what) {
-        try {
-            x.key(k, what);
-            return false;
-        } catch (NoSuchElementException e) {
-            return true;
-        }
-    }
-
-    private static boolean throwsMan(LostKeys x, int m, int what) {
-        try {
-            x.man(m, what);
-            return false;
-        } catch (NoSuchElementException e) {
-            return true;
-        }
     }
 
     private static void nearest() {
