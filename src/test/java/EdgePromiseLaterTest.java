@@ -720,18 +720,18 @@ public final class EdgePromiseLaterTest {
         String second = "field 3 6;room d;room e;room f;lock lc d e 2 5 40 open;lock ld d f 1 3 41;man o 0 3;man p 2 4;key q p 50;key r p 51;slow 7;";
         LostKeys x = Check.town(first);
         x.drop(0, 0);
-        Check.dueSentence(x, "ward>4 and not number=1 or of n", 4, 0);
+        Check.dueSentence(x, "ward>4 and not number=1", 3, 0);
         x.image(0);
         // Twice, so that nothing of the first is left anywhere.
         for (int i = 0; i < 2; i++) {
             Check.tape(x, second);
             x.town();
-            Check.dueSentence(x, "lain=0 or lain=0 or lain=0 or lain=0 or lain=0 or had o", 6, 0);
+            Check.dueSentence(x, i == 0 ? "lain=0 or lain=0 or lain=0 or lain=0 or had o" : "lain=0", i == 0 ? 5 : 1, 0);
         }
         Check.due("restore(0)", x.restore(0), true);
         LostKeys want = Check.town(first);
         want.drop(0, 0);
-        Check.tape(want, "ward>4 and not number=1 or of n");
+        Check.tape(want, "ward>4 and not number=1");
         want.sentence();
         for (int what = 0; what < 8; what++) {
             Check.due("count(" + what + ")", x.count(what), want.count(what));
@@ -745,7 +745,7 @@ public final class EdgePromiseLaterTest {
         for (int cell = 0; cell < 18; cell++) {
             Check.due("nearest() to " + cell, x.nearest(cell % 6, cell / 6), want.nearest(cell % 6, cell / 6));
         }
-        Check.due("found()", found(x, 5, 2, 13, 7), found(want, 5, 2, 13, 7));
+        Check.due("found() by the WARDS told", found(x, 5, 2, 1, 7), 1);
         Check.due("way(0, 2, 0)", x.way(0, 2, 0), want.way(0, 2, 0));
         Check.due("tag(1)", x.tag(1), want.tag(1));
         Check.due("drawn(40, 6)", x.drawn(40, 6), want.drawn(40, 6));
