@@ -252,6 +252,40 @@ public final class EdgeTextTest {
         Check.due("drop(4, 7)", x.drop(4, 7), 0);
         Check.due("man(4, 3)", x.man(4, 3), 128);
         Check.due("way(5, 0, 0)", x.way(5, 0, 0), 1);
+        fullGoesOn(x);
+    }
+
+    /** Where there are as many as may be, all goes on as where there are few; and nothing of them is left in the next TOWN. */
+    private static void fullGoesOn(LostKeys x) {
+        Check.due("walk(4, 3, 4)", x.walk(4, 3, 4), 0);
+        Check.due("key(6, 2) that he has", x.key(6, 2), 3);
+        Check.due("key(7, 2) that lies", x.key(7, 2), 4);
+        Check.due("days(2)", x.days(2), 2);
+        Check.due("key(7, 5)", x.key(7, 5), 2);
+        Check.due("now(2): the first LOCK too", x.now(2), 33);
+        Check.due("match()", x.match(), 0);
+        Check.due("matched(1)", x.matched(1), 0);
+        Check.due("matched(4)", x.matched(4), 3);
+        Check.due("twins()", x.twins(), 0);
+        Check.due("losing(7, 0)", x.losing(7, 0), 2);
+        Check.due("odds(5, 30, 1)", x.odds(5, 30, 1) >= 0, true);
+        for (int seed = 0; seed < 5; seed++) {
+            Check.due("drawn(60, " + seed + ")", x.drawn(60, seed), 60);
+            Check.dueSentence(x, "fits lf and not near lf", 3, 0);
+            Check.due("said(-1)", x.said(-1), 8);
+        }
+        for (int k = 0; k < 8; k++) {
+            x.drop(x.key(k, 1), k);
+        }
+        Check.due("now(1)", x.now(1), 255);
+        Check.tape(x, ROOMS + "lock c a b 0 0 1;man m 0 0;key k m 0;slow 1;");
+        x.town();
+        Check.due("days(9)", x.days(9), 9);
+        Check.due("walk(0, 1, 0)", x.walk(0, 1, 0), 0);
+        Check.due("now(1)", x.now(1), 0);
+        Check.due("now(2)", x.now(2), 0);
+        Check.due("now(3)", x.now(3), 0);
+        Check.due("now(4)", x.now(4), 0);
     }
 
     private static void numbered() {
