@@ -726,7 +726,7 @@ public final class EdgePromiseLaterTest {
         for (int i = 0; i < 2; i++) {
             Check.tape(x, second);
             x.town();
-            Check.dueSentence(x, i == 0 ? "lain=0 or lain=0 or lain=0 or lain=0 or had o" : "lain=0", i == 0 ? 5 : 1, 0);
+            Check.dueSentence(x, i == 0 ? "lain=0 or lain=0 or lain=0 or lain=0 or had o" : "lain=0 or lain=0", i == 0 ? 5 : 2, 0);
         }
         Check.due("restore(0)", x.restore(0), true);
         LostKeys want = Check.town(first);
