@@ -13,6 +13,7 @@ public final class LostKeys {
     /** Rows of cells, and rows of names, are laid out by the most there may be. */
     private static final int SIDE = 6;
     private static final int CELLS = 36;
+    private static final int MOST_ROOMS = 6;
     private static final int MOST_LOCKS = 6;
     private static final int MOST_MEN = 5;
     private static final int MOST_KEYS = 8;
@@ -1519,8 +1520,8 @@ public final class LostKeys {
         /** By how many LOCKS that are shut have their KEYS, KEY_SETS for each, and which KEYS they have. */
         private final int[] fewest = new int[(MOST_LOCKS + 1) * KEY_SETS];
         private final int[] keyOf = new int[MOST_LOCKS];
-        private final int[] distance = new int[SIDE];
-        private final int[] wayLocks = new int[SIDE];
+        private final int[] distance = new int[MOST_ROOMS];
+        private final int[] wayLocks = new int[MOST_ROOMS];
         private int wayLength;
         private final int[] wards = new int[MOST_KEYS];
 

@@ -60,7 +60,7 @@ public final class EdgeTextTest {
     }
 
     private static void fieldSides() {
-        Check.of("'field' WIDE HIGH (2 to 6 each");
+        Check.of("LINE: 'field' WIDE HIGH (2 to 6 each");
         for (int side = 0; side < 10; side++) {
             boolean right = side >= 2 && side <= 6;
             Check.dueTown("field " + side + " 3;", right ? 1 : -1 - 6, right ? 0 : 2);
